@@ -3,6 +3,7 @@ import java.lang.reflect.Field;
 import java.lang.reflect.Method;
 import java.lang.reflect.Modifier;
 import java.util.Arrays;
+import java.util.NoSuchElementException;
 import java.util.Set;
 import java.util.TreeSet;
 
@@ -16,12 +17,20 @@ public final class FaceTest {
 
     private static final Check CHECK = new Check();
 
-    public static void main(String[] args) {
+    public static void main(String[] args) throws NoSuchMethodException {
         face();
+        told("token", NoSuchElementException.class, IndexOutOfBoundsException.class);
+        told("take", NoSuchElementException.class);
         members();
         newObject();
         objectsAreApart();
         CHECK.close();
+    }
+
+    private static void told(String name, Class<?>... due) throws NoSuchMethodException {
+        Class<?>[] parameters = name.equals("token") ? new Class<?>[] {int.class} : new Class<?>[0];
+        Class<?>[] told = TokenBench.class.getMethod(name, parameters).getExceptionTypes();
+        CHECK.yes(name + " tells of " + Arrays.toString(told), Arrays.equals(told, due));
     }
 
     private static void face() {
