@@ -15,7 +15,7 @@ public final class DistanceTest {
         due(3, "(abc)+");
         due(2, "(ab)+");
         due(7, "a", "abcdefab");
-        due(5, "a|abbbbb", "ab?c");
+        due(4, "a|abbbb", "ab?c");
         due(-1, "a", "ab*c");
         due(-1, "(a|b)*abb");
         due(-1, ".*a.......");

@@ -39,7 +39,9 @@ final class Bench {
     static TokenBench with(String... texts) {
         TokenBench x = new TokenBench();
         for (String text : texts) {
-            rule(x, text, 0);
+            if (rule(x, text, 0) < 0) {
+                throw new IllegalArgumentException("refused: " + text);
+            }
         }
         return x;
     }

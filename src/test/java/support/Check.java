@@ -2,12 +2,18 @@
 final class Check {
     private int made = 0;
     private int wrong = 0;
+    private String sentence = "";
+
+    /** What the checks that follow are for, in the document's words: a wrong answer is told with it. */
+    void of(String words) {
+        sentence = "\"" + words + "\": ";
+    }
 
     void same(String what, long got, long due) {
         made++;
         if (got != due) {
             wrong++;
-            System.out.println(what + " answered " + got + ", due is " + due);
+            System.out.println(sentence + what + " answered " + got + ", due is " + due);
         }
     }
 
@@ -17,6 +23,14 @@ final class Check {
 
     void no(String what, boolean got) {
         same(what, got ? 1 : 0, 0);
+    }
+
+    void text(String what, String got, String due) {
+        made++;
+        if (!got.equals(due)) {
+            wrong++;
+            System.out.println(sentence + what + " answered <" + got + ">, due is <" + due + ">");
+        }
     }
 
     boolean hasFailed() {
