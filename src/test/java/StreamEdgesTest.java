@@ -517,6 +517,14 @@ public final class StreamEdgesTest {
         x.begin(1);
         CHECK.yes("end of another", x.end());
         CHECK.no("end of another again", x.end());
+        TokenBench y = ring();
+        y.begin(0);
+        Bench.feed(y, "aab");
+        y.end();
+        CHECK.no("end refused", y.end());
+        CHECK.same("feed refused", y.feed(0, 1), -1);
+        state("refused calls change nothing", y, 0, 1, 1, 3);
+        tokens("of the ended one", y, "0@0+1/0 1@1+1/1 5@2+1/2");
     }
 
     private static void endWithAnyNumberWaiting() {
