@@ -45,7 +45,7 @@ public final class TokenBench {
     private final RuleText text = new RuleText();
     private final RuleBook book = new RuleBook();
     private final Comparison comparison = new Comparison();
-    private final Stream stream = new Stream(book);
+    private final Stream stream = new Stream();
 
     public TokenBench() {
     }
@@ -114,14 +114,14 @@ public final class TokenBench {
         if (!stream.isUnderWay() || n < 1 || n > FED) {
             return NONE;
         }
-        return stream.accept(word, n);
+        return stream.accept(word, n, book);
     }
 
     public boolean end() {
         if (!stream.isUnderWay()) {
             return false;
         }
-        stream.finish();
+        stream.finish(book);
         return true;
     }
 
@@ -978,7 +978,6 @@ public final class TokenBench {
     }
 
     private static final class Stream {
-        private final RuleBook book;
         private final TokenQueue tokens = new TokenQueue();
         private boolean isThere = false;
         private boolean isEnded = false;
@@ -994,10 +993,6 @@ public final class TokenBench {
         private int state = 0;
         private int matched = 0;
         private int matchedRule = NONE;
-
-        Stream(RuleBook book) {
-            this.book = book;
-        }
 
         void open(int firstMode) {
             isThere = true;
@@ -1037,41 +1032,40 @@ public final class TokenBench {
             }
         }
 
-        int accept(int word, int n) {
+        int accept(int word, int n, RuleBook book) {
             int taken = 0;
             while (taken < n && tokens.size() < WAITING && pendingCount < PENDING) {
                 pending[pendingCount] = (word >>> (3 * taken) & 7) % LETTERS;
                 pendingCount++;
                 came++;
                 taken++;
-                cutAllDue();
+                cutAllDue(book);
             }
             return taken;
         }
 
-        void finish() {
+        void finish(RuleBook book) {
             isEnded = true;
-            cutAllDue();
+            cutAllDue(book);
         }
 
-        private void cutAllDue() {
-            for (int cuts = 0; cuts < PENDING && isCutDue(); cuts++) {
-                cut();
+        private void cutAllDue(RuleBook book) {
+            for (int cuts = 0; cuts < PENDING && isCutDue(book.machineOf(mode)); cuts++) {
+                cut(book);
             }
         }
 
-        private boolean isCutDue() {
+        private boolean isCutDue(Machine machine) {
             for (int i = looked; i < pendingCount; i++) {
-                lookAt(pending[i]);
-                if (!book.machineOf(mode).goesOn(state)) {
+                lookAt(pending[i], machine);
+                if (!machine.goesOn(state)) {
                     return true;
                 }
             }
             return pendingCount == PENDING || isEnded && pendingCount > 0;
         }
 
-        private void lookAt(int letter) {
-            Machine machine = book.machineOf(mode);
+        private void lookAt(int letter, Machine machine) {
             state = machine.after(state, letter);
             looked++;
             int rule = machine.winnerOf(state);
@@ -1088,7 +1082,7 @@ public final class TokenBench {
             matchedRule = NONE;
         }
 
-        private void cut() {
+        private void cut(RuleBook book) {
             int rule = matchedRule;
             int length = Math.max(matched, 1);
             tokens.add(rule, came - pendingCount, length, mode);

@@ -22,6 +22,8 @@ public final class FaceTest {
         told("token", NoSuchElementException.class, IndexOutOfBoundsException.class);
         told("take", NoSuchElementException.class);
         members();
+        partsAreMadeAlone();
+        classesAreSmall();
         newObject();
         objectsAreApart();
         CHECK.close();
@@ -65,6 +67,45 @@ public final class FaceTest {
             int how = inside.getModifiers();
             CHECK.yes(inside + " is static", Modifier.isStatic(how));
             CHECK.no(inside + " is public", Modifier.isPublic(how) || Modifier.isProtected(how));
+        }
+    }
+
+    /** LANGUAGE.md, rule 12: while an object is made, nothing of it is handed to another. */
+    private static void partsAreMadeAlone() {
+        for (Field field : TokenBench.class.getDeclaredFields()) {
+            if (field.getType().getEnclosingClass() == TokenBench.class) {
+                for (Constructor<?> constructor : field.getType().getDeclaredConstructors()) {
+                    CHECK.same("what " + field.getName() + " is made of", constructor.getParameterCount(), 0);
+                }
+            }
+        }
+    }
+
+    /** LANGUAGE.md, rules 1 and 11: how many classes, fields and parameters, and which names. */
+    private static void classesAreSmall() {
+        Class<?>[] inside = TokenBench.class.getDeclaredClasses();
+        CHECK.yes(inside.length + " classes inside", inside.length < 12);
+        classIsSmall(TokenBench.class);
+        for (Class<?> one : inside) {
+            classIsSmall(one);
+        }
+    }
+
+    private static void classIsSmall(Class<?> one) {
+        Set<String> face = new TreeSet<>();
+        for (Method method : TokenBench.class.getMethods()) {
+            face.add(method.getName());
+        }
+        long fields = Arrays.stream(one.getDeclaredFields()).filter(f -> !Modifier.isStatic(f.getModifiers())).count();
+        CHECK.yes(one.getSimpleName() + " has " + fields + " fields", fields <= 20);
+        for (Method method : one.getDeclaredMethods()) {
+            CHECK.yes(method + " has few parameters", method.getParameterCount() <= 7);
+            boolean isHidden = Modifier.isPrivate(method.getModifiers());
+            CHECK.no(method + " bears a public name", isHidden && face.contains(method.getName()));
+        }
+        for (Field field : one.getDeclaredFields()) {
+            int how = field.getModifiers();
+            CHECK.yes(field + " does not change", !Modifier.isStatic(how) || Modifier.isFinal(how));
         }
     }
 

@@ -39,6 +39,7 @@ public final class StatesEdgesTest {
         differingBehindAState0();
         differingNoLetter();
         differingMost();
+        differLong();
         CHECK.close();
     }
 
@@ -375,5 +376,17 @@ public final class StatesEdgesTest {
         CHECK.same("none of two such", x.differ(2, 0), -1);
         CHECK.same("its letter", x.differing(2, 0, 0), -1);
         CHECK.same("the first pair again", x.differing(1, 0, 0), 1);
+    }
+
+    private static void differLong() {
+        CHECK.of("The length of the shortest word");
+        TokenBench x = new TokenBench();
+        Bench.rule(x, GREATEST, 0);
+        Bench.rule(x, "b+........", 1);
+        CHECK.same("states of one", x.states(0), 512);
+        CHECK.same("the first that goes round twice", x.differ(0, 1), 18);
+        CHECK.text("its letters", Bench.difference(x, 0, 1), "baaaaaaaabaaaaaaaa");
+        CHECK.text("the other way round", Bench.difference(x, 1, 0), "baaaaaaaabaaaaaaaa");
+        CHECK.same("no letter 18", x.differing(1, 0, 18), -1);
     }
 }
